@@ -12,7 +12,7 @@ public final class EventsTest {
     private static void event(Runs runs) {
         runs.run("23 refused", "event(3, 0) -1; event(-2, 0) -1; event(1, 3) -1; event(1, -1) -1; event(2, 2) -1; event(2, -1) -1; event(0, 1) -2"
             + "; event(0, -1) -2; event(3, 9) -1; count(1) 0");
-        runs.run("23 full", "times 1 event(0, 0) 1; event(1, 0) 2; event(1, 2) 3; event(2, 0) 4; event(2, 1) 5; event(0, 0) 6; event(0, 0) 7; event(0, 0) 8"
+        runs.run("23 full", "event(0, 0) 1; event(1, 0) 2; event(1, 2) 3; event(2, 0) 4; event(2, 1) 5; event(0, 0) 6; event(0, 0) 7; event(0, 0) 8"
             + "; event(0, 0) -4; event(0, 1) -2; event(1, 3) -1; event(3, 0) -1; count(1) 8; event(-1, 2147483647) 0; count(1) 0; event(1, 1) 1");
         runs.run("23 by letters now", "letters(5) 3; event(1, 4) 1; letters(2) 5; event(1, 2) -1; event(1, 1) 2");
     }

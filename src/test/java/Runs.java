@@ -4,8 +4,7 @@ import java.util.regex.Pattern;
 /**
  * Runs of calls on new objects. A run is a text of rows 'name(arguments) answer', parted by
  * semicolons or line ends; 'NO' is Long.MIN_VALUE; 'text <signs> answer' feeds the signs (a ; in
- * them is written as a comma), calls read() and looks at its answer; 'times n call answer' makes
- * the call n times, each with that answer.
+ * them is written as a comma), calls read() and looks at its answer.
  */
 final class Runs {
     private static final Pattern CALL = Pattern.compile("(\\w+)\\(([^)]*)\\)\\s+(\\S+)");
@@ -24,11 +23,6 @@ final class Runs {
             String call = row.trim();
             if (call.startsWith("text ")) {
                 readText(title, x, call.substring(5).trim());
-            } else if (call.startsWith("times ")) {
-                String[] parts = call.split("\\s+", 3);
-                for (int i = 0; i < Integer.parseInt(parts[1]); i++) {
-                    ask(title, x, parts[2]);
-                }
             } else if (!call.isEmpty()) {
                 ask(title, x, call);
             }

@@ -31,6 +31,7 @@ public final class TapesTest {
         runs.run("29 again, and anew", "image() 3; length(0, 5) 1; undo() 3; of(0, 2) 1; length(0, 9) 1; undo() 3; length(0, 4) 1; image() 6; letters(5) 3; undo() 6; told(0) 3"
             + "; of(0, 2) 4; see(0, 0) 1; see(0, 0) 2; image() 6; see(0, 0) 3; undo() 6; count(0) 2");
         runs.run("29 top is as it was", "length(0, 5) 1; step() 1; image() 6; letters(3) 3; undo() 6; of(1, 0) 2; of(2, 0) 1; told(2) 231; told(3) 321");
+        runs.run("29 no deed can be taken back behind it", "image() 3; length(0, 5) 1; swap(0, 1) 1; count(4) 2; undo() 3; count(4) 0; takeBack() -3; told(1) 3");
         runs.run("28 deeds stay", "length(0, 5) 1; image() 7; count(4) 1; takeBack() 0; of(0, 2) 1; undo() 7; of(0, 2) 5; count(4) 0");
     }
 
