@@ -70,6 +70,8 @@ public final class LettersTest {
         runs.run("7 none behind", "bottom(213) 1; back(0) -3; back(1) -3; count(4) 0");
         runs.run("7 none behind by one row", "bottom(123) 1; length(2, 99) 1; back(0) -3; back(1) -3");
         runs.run("7 above 99", "length(2, 98) 1; back(0) 101; of(2, 2) 99; back(0) -2; of(2, 2) 99; told(1) 101; count(4) 2");
+        runs.run("7 five letters", "letters(5) 3; back(0) 6; told(2) 53214; of(4, 1) 3; of(4, 2) 2; back(1) 8; told(2) 53214; of(3, 2) 3"
+            + "; letters(5) 5; back(1) 6; told(2) 43251; of(4, 0) 1; of(0, 2) 2");
         runs.run("7 it takes a step back", "length(0, 7) 1; length(1, 3) 1; length(2, 4) 1; step() 1; told(2) 231; back(1) 14; told(2) 321"
             + "; of(0, 2) 7; of(1, 0) 1; of(2, 0) 2; count(4) 5");
     }
