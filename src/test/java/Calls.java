@@ -1,5 +1,11 @@
+import java.util.Arrays;
+import java.util.Set;
+
 /** One call of the face by its name, so that runs can be written as texts and made by programs. */
 interface Calls {
+    /** The document promises nothing about an object behind so many calls. */
+    int MOST_CALLS = 512;
+
     /** Names with the number of their arguments behind a slash; the order is that of the document. */
     String[] FACE = {
         "letters/1", "bottom/1", "length/2", "swap/2", "step/0", "back/1", "takeBack/0", "keep/0",
@@ -7,7 +13,29 @@ interface Calls {
         "see/2", "fits/2", "odds/1", "mean/1", "event/2", "after/1", "book/2", "looked/0",
         "judge/2", "image/0", "undo/0", "count/1", "tape/3", "item/3", "peek/2", "shift/5"};
 
+    Set<String> ASKING = Set.of("of", "told", "point", "gone", "code", "next", "meeting", "fits", "odds", "mean",
+        "after", "looked", "judge", "count", "peek");
+
+    /** Whether a call that answered so may have changed something: a refused or an asking one may not. */
+    static boolean mayChange(String name, long answer) {
+        // read() empties THE TEXT by a FAULT, too.
+        return !ASKING.contains(name) && (answer >= 0 || name.equals("read"));
+    }
+
     long call(String name, long... a);
+
+    /** One call, to be made again on other objects. */
+    record Said(String name, long... a) {
+        long on(Calls x) {
+            return x.call(name, a);
+        }
+
+        @Override
+        public String toString() {
+            String inside = Arrays.toString(a);
+            return name + "(" + inside.substring(1, inside.length() - 1) + ")";
+        }
+    }
 
     /** The class under test behind this interface. */
     final class Real implements Calls {

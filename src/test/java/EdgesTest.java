@@ -1,12 +1,16 @@
+import java.util.ArrayList;
 import java.util.Arrays;
-import java.util.Set;
+import java.util.List;
 
-/** Every call with every mix of edge numbers, in many states: it ends, and if refused or asking it changes nothing. */
+/**
+ * Every call with every mix of edge numbers, in many states: it ends, it answers as the model does,
+ * and if it is refused or asking it changes nothing, neither what can be asked for nor what only
+ * later calls bring to light.
+ */
 public final class EdgesTest {
     private static final long[] EDGES = {
         Long.MIN_VALUE, Integer.MIN_VALUE, -2, -1, 0, 1, 2, 3, 5, 6, 60, 61, 99, 100, 321, 499, 500, 9999, 10000, 54321, Integer.MAX_VALUE};
-    private static final Set<String> ASKING = Set.of("of", "told", "point", "gone", "code", "next", "meeting", "fits", "odds", "mean",
-        "after", "looked", "judge", "count", "peek");
+    private static final int BATCH = 100;
     private static final String[] STATES = {
         "", "letters 2", "letters 5;length 0 99;length 1 99;length 2 99;length 3 99;length 4 99;bottom 25431",
         "bottom 123;see 0 0;see 1 1;see 2 2;see 3 3", "length 0 5;step;swap 0 1;image;event 0 0;event 1 2;event 2 1;book 0 3;book 2 1",
@@ -15,29 +19,43 @@ public final class EdgesTest {
             + ";length 0 6;length 0 5;length 0 4;book 0 1;book 0 1;book 0 1;book 0 1;book 0 1;book 0 1;book 0 1;book 0 1"
             + ";event 0 0;event 0 0;event 0 0;event 0 0;event 0 0;event 0 0;event 0 0;event 0 0"};
 
-    private static int asked = 0;
+    private static int made = 0;
     private static int wrong = 0;
 
-    public static void main(String[] args) {
-        for (String state : STATES) {
-            for (String face : Calls.FACE) {
-                String[] call = face.split("/");
-                long[] a = new long[Integer.parseInt(call[1])];
-                fill(state, call[0], a, 0);
+    private final List<Calls.Said> state = new ArrayList<>();
+    private final List<Calls.Said> quiet = new ArrayList<>();
+    private Calls model = null;
+
+    private EdgesTest(String calls) {
+        for (String call : calls.split(";")) {
+            String[] words = call.split(" ");
+            if (!words[0].isEmpty()) {
+                state.add(new Calls.Said(words[0], Arrays.stream(words).skip(1).mapToLong(Long::parseLong).toArray()));
             }
         }
-        System.out.println("EdgesTest: " + asked + " calls made, " + wrong + " wrong");
-        if (wrong != 0) {
+    }
+
+    public static void main(String[] args) {
+        for (String calls : STATES) {
+            EdgesTest test = new EdgesTest(calls);
+            for (String face : Calls.FACE) {
+                String[] call = face.split("/");
+                test.fill(call[0], new long[Integer.parseInt(call[1])], 0);
+            }
+            test.lookAtQuiet();
+        }
+        System.out.println("EdgesTest: " + made + " calls made, " + wrong + " wrong");
+        if (wrong != 0 || made == 0) {
             System.exit(1);
         }
     }
 
-    private static void fill(String state, String name, long[] a, int from) {
+    private void fill(String name, long[] a, int from) {
         if (from == a.length) {
-            look(state, name, a);
+            look(new Calls.Said(name, a.clone()));
             return;
         }
-        // Five arguments would make millions of mixes: the later ones of shift go through fewer.
+        // Five arguments would make millions of mixes: shift goes through fewer.
         int stride = a.length == 5 ? 3 : 1;
         for (int i = from % stride; i < EDGES.length; i += stride) {
             boolean isInt = !(name.equals("item") && from == 2);
@@ -45,70 +63,48 @@ public final class EdgesTest {
                 continue;
             }
             a[from] = EDGES[i];
-            fill(state, name, a, from + 1);
+            fill(name, a, from + 1);
         }
     }
 
-    private static Calls made(String state) {
-        Calls x = new Calls.Real();
-        for (String call : state.split(";")) {
-            String[] words = call.split(" ");
-            if (!words[0].isEmpty()) {
-                x.call(words[0], Arrays.stream(words).skip(1).mapToLong(Long::parseLong).toArray());
-            }
+    private static Calls with(Calls x, List<Calls.Said> calls) {
+        for (Calls.Said call : calls) {
+            call.on(x);
         }
         return x;
     }
 
-    private static Calls at = null;
-    private static String atState = null;
-    private static long[] atTold = null;
-
-    /** A new object only behind a call that could have changed the last one: setting up takes the time here. */
-    private static void look(String state, String name, long[] a) {
-        if (at == null || !state.equals(atState)) {
-            at = made(state);
-            atState = state;
-            atTold = told(at);
+    private void look(Calls.Said call) {
+        made++;
+        if (model == null) {
+            model = with(new Model(), state);
         }
-        asked++;
-        long answer = at.call(name, a);
-        boolean mayChange = !ASKING.contains(name) && answer >= 0 || name.equals("read") || name.equals("image");
-        if (mayChange) {
-            at = null;
-        } else if (!Arrays.equals(atTold, told(at))) {
-            wrong++;
-            System.out.println("EdgesTest, '" + state + "': " + name + Arrays.toString(a) + " answered " + answer + " and changed something");
-            at = null;
+        long answer = call.on(with(new Calls.Real(), state));
+        long want = call.on(model);
+        if (answer != want) {
+            fail(call + " answered " + answer + ", the model answers " + want);
+        }
+        if (Calls.mayChange(call.name(), want)) {
+            model = null;
+        } else {
+            quiet.add(call);
         }
     }
 
-    /** All that can be asked at no great cost. */
-    private static long[] told(Calls x) {
-        long[] told = new long[600];
-        int k = 0;
-        for (int i = 0; i <= 10; i++) {
-            told[k++] = x.call("told", i);
-        }
-        for (int i = 0; i < 15; i++) {
-            told[k++] = x.call("of", i / 3, i % 3);
-        }
-        for (int i = 0; i < 5; i++) {
-            told[k++] = x.call("count", i);
-            told[k++] = x.call("fits", i, 0);
-            told[k++] = x.call("fits", i, 1);
-        }
-        for (int i = 0; i < 3; i++) {
-            told[k++] = x.call("after", i);
-        }
-        told[k++] = x.call("looked");
-        for (int tape = 0; tape < 6; tape++) {
-            told[k++] = x.call("judge", tape, 0);
-            told[k++] = x.call("shift", tape, 0, tape, 0, 0);
-            for (int i = 0; i < 60; i++) {
-                told[k++] = x.call("peek", tape, i);
+    private void lookAtQuiet() {
+        for (int from = 0; from < quiet.size(); from += BATCH) {
+            List<Calls.Said> batch = quiet.subList(from, Math.min(from + BATCH, quiet.size()));
+            int part = Drain.unlikePart(() -> with(with(new Calls.Real(), state), batch), () -> with(new Calls.Real(), state));
+            if (part != -1) {
+                fail("one of these changed part " + part + " of what it holds: " + batch);
             }
         }
-        return told;
+    }
+
+    private void fail(String what) {
+        wrong++;
+        if (wrong <= 20) {
+            System.out.println("EdgesTest, behind " + state + ": " + what);
+        }
     }
 }

@@ -4,7 +4,7 @@ import java.util.List;
 
 /** Long runs of calls, made by a fixed row of numbers, on the class and on the model: alike in every answer. */
 public final class ModelTest {
-    private static final int RUNS = 1500, CALLS = 512;
+    private static final int RUNS = 4000;
     private static final long[] WILD = {
         -1, 0, 1, 2, 3, 4, 5, 6, -2, 99, 100, 60, 61, 499, 500, 9999, 10000, 127, 128, Integer.MAX_VALUE, Integer.MIN_VALUE};
     private static final String SIGNS = "nlrsbwku;;;;0123456789x ";
@@ -28,21 +28,23 @@ public final class ModelTest {
         System.out.println("ModelTest: " + test.answers + " answers alike");
     }
 
+    /** As many calls as the document promises anything about, and no more. */
     private boolean oneRun(int run) {
         Calls real = new Calls.Real();
         Calls model = new Model();
         List<String> said = new ArrayList<>();
-        for (int i = 0; i < CALLS; i++) {
-            if (pick(30) == 0) {
-                String text = text();
-                for (int k = 0; k < text.length() && i < CALLS; k++, i++) {
-                    if (!alike(run, said, real, model, "feed", text.charAt(k))) {
+        while (said.size() < Calls.MOST_CALLS) {
+            String text = pick(30) == 0 ? text() : "";
+            if (!text.isEmpty() && said.size() + text.length() < Calls.MOST_CALLS) {
+                for (char sign : text.toCharArray()) {
+                    if (!alike(run, said, real, model, "feed", sign)) {
                         return false;
                     }
                 }
                 if (!alike(run, said, real, model, "read")) {
                     return false;
                 }
+                continue;
             }
             String[] call = Calls.FACE[pick(Calls.FACE.length)].split("/");
             if (!alike(run, said, real, model, call[0], arguments(call[0], Integer.parseInt(call[1])))) {
