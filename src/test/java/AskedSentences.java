@@ -105,7 +105,10 @@ final class AskedSentences {
             "letters(2) 3; code(0) 21; code(1) -5; bottom(12) 1; code(0) 12; code(1) -5",
             "letters(4) 3; code(0) 2413; code(1) 2431; code(2) 3142; code(3) 3241; code(4) 4132; code(5) 4213; code(6) 4321; "
                 + "code(7) -5",
-            "letters(5) 3; code(14) 54321; code(15) -5");
+            "letters(5) 3; code(14) 54321; code(15) -5",
+            // Behind a greater CLASS that was asked for.
+            "letters(5) 3; bottom(54231) 1; code(34) 54312; letters(2) 5; code(0) 21; code(1) -5; letters(3) 2; code(2) 321; "
+                + "code(3) -5; bottom(123) 1; code(0) 123; code(1) -5");
         s.test("NONE: i below 0.",
             "code(-1) -1; code(-5) -1; code(-2147483648) -1; bottom(213) 1; code(-1) -1");
     }

@@ -98,10 +98,6 @@ final class Runs {
         }
     }
 
-    int wrong() {
-        return wrong;
-    }
-
     void end() {
         System.out.println(name + ": " + asked + " answers looked at, " + wrong + " wrong");
         if (wrong != 0 || asked == 0) {

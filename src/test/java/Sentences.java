@@ -16,7 +16,10 @@ final class Sentences {
     private static final Pattern BOUNDARY = Pattern.compile(
         "\\b(NONE|BAD|STATE|FULL|NO|NOTHING|CAST|PLACE|SIZE|FAULT|TIE)\\b|-\\d+|\\d+ \\.\\.|\\bat (most|least|first)\\b"
             + "|\\b(above|below|beyond|behind|too|none|no|nothing|isn't|aren't|must|whatever|alike|empty|refused|fewest|lowest|only|each)\\b");
+    private static final Pattern WORD = Pattern.compile("[\\w-]+");
 
+    /** Without the document the sentences are still tested, only not compared with it. */
+    private final boolean hasDocument = Files.isReadable(DOCUMENT);
     private final Runs runs;
     private final Map<String, String> words = new LinkedHashMap<>();
     private final Map<String, BitSet> tested = new LinkedHashMap<>();
@@ -26,6 +29,10 @@ final class Sentences {
 
     Sentences(String name) throws IOException {
         runs = new Runs(name);
+        if (!hasDocument) {
+            System.out.println(DOCUMENT + " is not there: what the tests quote is not looked up");
+            return;
+        }
         for (String part : Files.readString(DOCUMENT).split("(?m)^## ")) {
             String[] headAndRest = part.split("\n", 2);
             String head = headAndRest[0].trim();
@@ -39,7 +46,7 @@ final class Sentences {
 
     void section(String head) {
         section = head;
-        if (!words.containsKey(head)) {
+        if (hasDocument && !words.containsKey(head)) {
             fail("the document has no part '" + head + "'");
         }
     }
@@ -47,17 +54,22 @@ final class Sentences {
     /** The words, as they stand in this section, hold for these runs, each on a new object. */
     void test(String said, String... rows) {
         tests++;
+        if (hasDocument) {
+            markTested(said);
+        }
+        for (String row : rows) {
+            runs.run(section + ", '" + said + "'", row);
+        }
+    }
+
+    private void markTested(String said) {
         String all = words.getOrDefault(section, "");
         int at = all.indexOf(said);
         if (at < 0) {
             fail("the document does not say so in '" + section + "': " + said);
-            return;
         }
         for (; at >= 0; at = all.indexOf(said, at + 1)) {
             tested.get(section).set(at, at + said.length());
-        }
-        for (String row : rows) {
-            runs.run(section + ", '" + said + "'", row);
         }
     }
 
@@ -75,17 +87,17 @@ final class Sentences {
         System.out.println(what);
     }
 
+    /** Of a promise each word is to be tested, of the rest what marks a boundary. */
     private void lookForUntested() {
-        for (Map.Entry<String, String> part : words.entrySet()) {
-            if (tested.get(part.getKey()).isEmpty()) {
-                fail("no test of '" + part.getKey() + "'");
-            }
-            Matcher m = BOUNDARY.matcher(part.getValue());
-            while (m.find()) {
-                if (tested.get(part.getKey()).nextClearBit(m.start()) < m.end()) {
-                    int from = Math.max(0, m.start() - 40);
-                    int to = Math.min(part.getValue().length(), m.end() + 40);
-                    fail("no test of '" + m.group() + "' in '" + part.getKey() + "': .. " + part.getValue().substring(from, to) + " ..");
+        for (String head : words.keySet()) {
+            boolean isPromise = head.startsWith("Promise ");
+            String all = words.get(head);
+            Matcher m = (isPromise ? WORD : BOUNDARY).matcher(all);
+            int from = isPromise ? all.indexOf("`: ") + 3 : 0;
+            for (boolean found = m.find(from); found; found = m.find()) {
+                if (tested.get(head).nextClearBit(m.start()) < m.end()) {
+                    String near = all.substring(Math.max(0, m.start() - 40), Math.min(all.length(), m.end() + 40));
+                    fail("no test of '" + m.group() + "' in '" + head + "': .. " + near + " ..");
                 }
             }
         }
@@ -94,7 +106,7 @@ final class Sentences {
     void end() {
         lookForUntested();
         System.out.println(tests + " sentences tested, " + wrong + " faults of the tests themselves");
-        if (wrong != 0 || tests == 0) {
+        if (wrong != 0) {
             System.exit(1);
         }
         runs.end();

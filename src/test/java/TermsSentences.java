@@ -121,6 +121,8 @@ final class TermsSentences {
     }
 
     private static void shapes(Sentences s) {
+        s.test("A SHAPE: TOP and BOTTOM without LENGTHS.",
+            "told(5) 3; told(6) 0; told(7) 2; length(0, 99) 1; told(2) 321; told(4) 1; told(5) 3; told(6) 0; told(7) 2; told(8) 1");
         s.test("A SHAPE has STEPS of both KINDS, LENGTHS left out (none, if t and b are one LETTER).",
             "step() -3; next(321, 0) 312; next(321, 1) 231; length(0, 9) 1; next(321, 0) 312; next(321, 1) 231",
             "next(123, 0) -5; next(123, 1) -5; next(213, 0) -5; next(213, 1) -5; bottom(213) 1; told(5) 1; code(0) 213; code(1) -5");
@@ -347,6 +349,8 @@ final class TermsSentences {
             "meeting(-1) -1; meeting(0) 2; meeting(3) 1; meeting(4) -1",
             "letters(2) 3; meeting(2) 0; meeting(3) -1",
             "letters(5) 3; meeting(5) 3; meeting(6) -1");
+        s.test("Places in TOP, in BOTTOM being counted from 1 here:",
+            "bottom(123) 1; meeting(0) 0; meeting(1) 1; meeting(2) 2; meeting(3) 3");
         s.test("MEETING 0 leads to that of the place in TOP of the first LETTER of BOTTOM, less 1;",
             "meeting(0) 2; bottom(123) 1; meeting(0) 0; bottom(231) 1; meeting(0) 1",
             "letters(5) 3; meeting(0) 4; bottom(12345) 1; meeting(0) 0",
@@ -455,6 +459,10 @@ final class TermsSentences {
                 + "book(3, 9) 1; book(3, 8) 2; book(3, 7) 3; image() 11; letters(2) 4; see(-1, 0) 0; event(-1, 0) 0; "
                 + "book(-1, 0) 0; undo() 11; told(0) 4; of(0, 0) 0; of(1, 0) 3; of(2, 0) 1; of(3, 0) 2; of(0, 1) 3; of(1, 1) 2; "
                 + "of(2, 1) 0; of(3, 1) 1; of(0, 2) 8; told(3) 2431; count(0) 2; count(1) 1; count(2) 3; after(0) 12; looked() 0",
+            // Rows come back as they were, both numbers of each.
+            "see(0, 11) 1; event(1, 2) 1; event(2, 0) 2; book(1, 7) 1; book(2, 1) 2; length(1, 7) 1; looked() -5; image() 9; "
+                + "see(-1, 0) 0; see(5, 6) 1; event(-1, 0) 0; event(0, 0) 1; book(-1, 0) 0; book(0, 3) 1; letters(3) 3; undo() 9; "
+                + "fits(1, 0) 1; fits(1, 1) 10; after(0) 17; after(1) 312; looked() -5; length(1, 8) 7; looked() 0",
             // THE TEXT and the TAPES are not of it.
             "feed(107) 1; tape(0, 1, 3) 1; image() 3; feed(107) 2; item(0, 1, 7) 1; tape(1, 2, 4) 1; undo() 3; count(3) 2; "
                 + "peek(0, 1) 7; peek(1, 3) 0; read() -11",
